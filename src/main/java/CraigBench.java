@@ -185,7 +185,7 @@ public final class CraigBench {
     }
 
     public int graph(int i, int what) {
-        return answer.root == 0 ? NONE : answer.graph.tell(i, what);
+        return answer.graph.tell(i, what);
     }
 
     public int follows(int cut, int other, int system) {
