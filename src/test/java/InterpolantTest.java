@@ -29,20 +29,14 @@ final class InterpolantTest {
         return valuation >> (v - 1) & 1;
     }
 
-    private static void node(CraigBench bench, int i, int variable, int low, int high) {
-        CHECKS.due("graph(" + i + ", 0)", bench.graph(i, 0), variable);
-        CHECKS.due("graph(" + i + ", 1)", bench.graph(i, 1), low);
-        CHECKS.due("graph(" + i + ", 2)", bench.graph(i, 2), high);
-    }
-
     private static void mcMillan() {
         CraigBench bench = Checks.benchWith(PROOF);
         CHECKS.due("refutation()", bench.refutation(), 11);
         CHECKS.due("interpolate(1, 0)", bench.interpolate(1, 0), 2);
         CHECKS.due("told(0)", bench.told(0), 256);
         CHECKS.due("told(1)", bench.told(1), 0b110);
-        node(bench, 0, 2, FALSE_SIDE, 1);
-        node(bench, 1, 3, TRUE_SIDE, FALSE_SIDE);
+        CHECKS.nodeDue(bench, 0, 2, FALSE_SIDE, 1);
+        CHECKS.nodeDue(bench, 1, 3, TRUE_SIDE, FALSE_SIDE);
         CHECKS.due("graph(2, 0)", bench.graph(2, 0), CraigBench.NONE);
         for (int valuation = 0; valuation < 16; valuation++) {
             int two = bit(valuation, 2);
@@ -64,7 +58,7 @@ final class InterpolantTest {
         CHECKS.due("interpolate(1, 1)", bench.interpolate(1, 1), 1);
         CHECKS.due("told(0)", bench.told(0), 512);
         CHECKS.due("told(1)", bench.told(1), 0b100);
-        node(bench, 0, 3, TRUE_SIDE, FALSE_SIDE);
+        CHECKS.nodeDue(bench, 0, 3, TRUE_SIDE, FALSE_SIDE);
         for (int valuation = 0; valuation < 16; valuation++) {
             CHECKS.due("value(" + valuation + ")", bench.value(valuation), 1 - bit(valuation, 3));
             CHECKS.due("partial(3)", bench.partial(3, valuation), 0);
@@ -75,7 +69,7 @@ final class InterpolantTest {
         // The other way round: cut by the side that has the LITERAL itself.
         CraigBench other = Checks.benchWith("c1:5;c2:-5;r1 2 5;");
         CHECKS.due("interpolate(1, 1)", other.interpolate(1, 1), 1);
-        node(other, 0, 5, FALSE_SIDE, TRUE_SIDE);
+        CHECKS.nodeDue(other, 0, 5, FALSE_SIDE, TRUE_SIDE);
     }
 
     private static void inverse() {
@@ -83,8 +77,8 @@ final class InterpolantTest {
         CHECKS.due("interpolate(1, 2)", bench.interpolate(1, 2), 2);
         CHECKS.due("told(0)", bench.told(0), 768);
         CHECKS.due("told(1)", bench.told(1), 0b110);
-        node(bench, 0, 2, TRUE_SIDE, 1);
-        node(bench, 1, 3, TRUE_SIDE, FALSE_SIDE);
+        CHECKS.nodeDue(bench, 0, 2, TRUE_SIDE, 1);
+        CHECKS.nodeDue(bench, 1, 3, TRUE_SIDE, FALSE_SIDE);
         for (int valuation = 0; valuation < 16; valuation++) {
             int two = bit(valuation, 2);
             int three = bit(valuation, 3);
@@ -116,7 +110,7 @@ final class InterpolantTest {
         bench.label(2, 3);
         bench.label(3, 3);
         CHECKS.due("interpolate(1, 3) as Pudlak", bench.interpolate(1, 3), 1);
-        node(bench, 0, 3, TRUE_SIDE, FALSE_SIDE);
+        CHECKS.nodeDue(bench, 0, 3, TRUE_SIDE, FALSE_SIDE);
         bench.label(2, 1);
         bench.label(3, 1);
         CHECKS.due("interpolate(1, 3) as inverse", bench.interpolate(1, 3), 2);
@@ -193,7 +187,7 @@ final class InterpolantTest {
         CHECKS.due("told(1) after clear()", bench.told(1), 0b110);
         CHECKS.due("value(2) after clear()", bench.value(2), 1);
         CHECKS.due("value(6) after clear()", bench.value(6), 0);
-        node(bench, 0, 2, FALSE_SIDE, 1);
+        CHECKS.nodeDue(bench, 0, 2, FALSE_SIDE, 1);
         Checks.readText(bench, "c1:10;c1:9;c2:;");
         CHECKS.due("partial(1, 0) of the old", bench.partial(1, 0), CraigBench.NONE);
         CHECKS.due("partial(2, 2) of the old", bench.partial(2, 2), 0);
@@ -230,11 +224,11 @@ final class InterpolantTest {
         CHECKS.due("interpolate(1, 0)", bench.interpolate(1, 0), 5);
         CHECKS.due("told(0)", bench.told(0), 512);
         CHECKS.due("told(1)", bench.told(1), 7);
-        node(bench, 0, 1, 1, 4);
-        node(bench, 1, 2, 2, 3);
-        node(bench, 2, 3, FALSE_SIDE, TRUE_SIDE);
-        node(bench, 3, 3, TRUE_SIDE, FALSE_SIDE);
-        node(bench, 4, 2, 3, 2);
+        CHECKS.nodeDue(bench, 0, 1, 1, 4);
+        CHECKS.nodeDue(bench, 1, 2, 2, 3);
+        CHECKS.nodeDue(bench, 2, 3, FALSE_SIDE, TRUE_SIDE);
+        CHECKS.nodeDue(bench, 3, 3, TRUE_SIDE, FALSE_SIDE);
+        CHECKS.nodeDue(bench, 4, 2, 3, 2);
     }
 
     private static void widestGraph() {

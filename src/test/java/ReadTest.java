@@ -22,35 +22,17 @@ final class ReadTest {
         CHECKS.finish();
     }
 
-    private static void reads(String text, int come) {
-        CraigBench bench = new CraigBench();
-        CHECKS.due("read of '" + text + "'", Checks.readText(bench, text), come);
-        CHECKS.due("fault(0) of '" + text + "'", bench.fault(0), 0);
-        CHECKS.due("fault(1) of '" + text + "'", bench.fault(1), CraigBench.NONE);
-        CHECKS.due("count(0) of '" + text + "'", bench.count(0), come);
-        CHECKS.due("count(4) of '" + text + "'", bench.count(4), 0);
-    }
-
-    private static void fails(String text, int kind, int place) {
-        CraigBench bench = new CraigBench();
-        CHECKS.due("read of '" + text + "'", Checks.readText(bench, text), CraigBench.NONE);
-        CHECKS.due("fault(0) of '" + text + "'", bench.fault(0), kind);
-        CHECKS.due("fault(1) of '" + text + "'", bench.fault(1), place);
-        CHECKS.due("count(0) of '" + text + "'", bench.count(0), 0);
-        CHECKS.due("count(4) of '" + text + "'", bench.count(4), 0);
-    }
-
     private static void textsWithoutFault() {
-        reads("", 0);
-        reads("  \n ", 0);
-        reads("c1:;", 1);
-        reads("c1:1-2 3;", 1);
-        reads("c\n8\n:\n10\n-\n9\n;\n", 1);
-        reads("c001:010-002;", 1);
-        reads("c1:1;c1:1;c2:;c2:;", 4);
-        reads("c1:1 2;c8:-1 3;r1 2 1;", 3);
-        reads("c1:1;c1:-1;r1 2 1;r001 002 001;", 4);
-        reads("c1:1 2 3 4 5 6 7 8 9 10;", 1);
+        CHECKS.reads("", 0);
+        CHECKS.reads("  \n ", 0);
+        CHECKS.reads("c1:;", 1);
+        CHECKS.reads("c1:1-2 3;", 1);
+        CHECKS.reads("c\n8\n:\n10\n-\n9\n;\n", 1);
+        CHECKS.reads("c001:010-002;", 1);
+        CHECKS.reads("c1:1;c1:1;c2:;c2:;", 4);
+        CHECKS.reads("c1:1 2;c8:-1 3;r1 2 1;", 3);
+        CHECKS.reads("c1:1;c1:-1;r1 2 1;r001 002 001;", 4);
+        CHECKS.reads("c1:1 2 3 4 5 6 7 8 9 10;", 1);
         CraigBench bench = Checks.benchWith("c5:2 -7;c3:7 2;r 2 1 7;");
         CHECKS.due("clause(3, 0)", bench.clause(3, 0), 0);
         CHECKS.due("clause(3, 1)", bench.clause(3, 1), 2);
@@ -61,88 +43,88 @@ final class ReadTest {
     }
 
     private static void syntaxFaults() {
-        fails("c", SYNTAX, 1);
-        fails("c \n ", SYNTAX, 4);
-        fails("c1", SYNTAX, 2);
-        fails("c1:", SYNTAX, 3);
-        fails("c1:1", SYNTAX, 4);
-        fails("c1:-", SYNTAX, 4);
-        fails("c1:1-;", SYNTAX, 5);
-        fails("c1:--1;", SYNTAX, 4);
-        fails("c1:1:;", SYNTAX, 4);
-        fails("c1:1c;", SYNTAX, 4);
-        fails("c1:1 r;", SYNTAX, 5);
-        fails("c1 1;", SYNTAX, 3);
-        fails("c:1;", SYNTAX, 1);
-        fails("c-1:1;", SYNTAX, 1);
-        fails("cc1:1;", SYNTAX, 1);
-        fails("1", SYNTAX, 0);
-        fails(" ;", SYNTAX, 1);
-        fails(":", SYNTAX, 0);
-        fails("-", SYNTAX, 0);
-        fails("c1:1;;", SYNTAX, 5);
-        fails("C1:1;", SYNTAX, 0);
-        fails("c1:1\t;", SYNTAX, 4);
-        fails("c1:1\r\n;", SYNTAX, 4);
-        fails("c1:\0;", SYNTAX, 3);
-        fails("c1:" + (char) 0xB1 + ";", SYNTAX, 3);
-        fails("c1:1;" + (char) 0xE3, SYNTAX, 5);
-        fails("c0001:1;", SYNTAX, 1);
-        fails("c1: 0001;", SYNTAX, 4);
-        fails("c1:1;0001", SYNTAX, 5);
-        fails("c1: 99999999999999999999;", SYNTAX, 4);
-        fails("c1:1;c1:-1;r", SYNTAX, 12);
-        fails("c1:1;c1:-1;r1", SYNTAX, 13);
-        fails("c1:1;c1:-1;r1 2", SYNTAX, 15);
-        fails("c1:1;c1:-1;r1 2 1", SYNTAX, 17);
-        fails("c1:1;c1:-1;r1 2 1 ", SYNTAX, 18);
-        fails("c1:1;c1:-1;r1 2;", SYNTAX, 15);
-        fails("c1:1;c1:-1;r1 2 1 1;", SYNTAX, 18);
-        fails("c1:1;c1:-1;r1 2 -1;", SYNTAX, 16);
-        fails("c1:1;c1:-1;r:1 2 1;", SYNTAX, 12);
-        fails("c1:1;c1:-1;r1 2 0001;", SYNTAX, 16);
+        CHECKS.fails("c", SYNTAX, 1);
+        CHECKS.fails("c \n ", SYNTAX, 4);
+        CHECKS.fails("c1", SYNTAX, 2);
+        CHECKS.fails("c1:", SYNTAX, 3);
+        CHECKS.fails("c1:1", SYNTAX, 4);
+        CHECKS.fails("c1:-", SYNTAX, 4);
+        CHECKS.fails("c1:1-;", SYNTAX, 5);
+        CHECKS.fails("c1:--1;", SYNTAX, 4);
+        CHECKS.fails("c1:1:;", SYNTAX, 4);
+        CHECKS.fails("c1:1c;", SYNTAX, 4);
+        CHECKS.fails("c1:1 r;", SYNTAX, 5);
+        CHECKS.fails("c1 1;", SYNTAX, 3);
+        CHECKS.fails("c:1;", SYNTAX, 1);
+        CHECKS.fails("c-1:1;", SYNTAX, 1);
+        CHECKS.fails("cc1:1;", SYNTAX, 1);
+        CHECKS.fails("1", SYNTAX, 0);
+        CHECKS.fails(" ;", SYNTAX, 1);
+        CHECKS.fails(":", SYNTAX, 0);
+        CHECKS.fails("-", SYNTAX, 0);
+        CHECKS.fails("c1:1;;", SYNTAX, 5);
+        CHECKS.fails("C1:1;", SYNTAX, 0);
+        CHECKS.fails("c1:1\t;", SYNTAX, 4);
+        CHECKS.fails("c1:1\r\n;", SYNTAX, 4);
+        CHECKS.fails("c1:\0;", SYNTAX, 3);
+        CHECKS.fails("c1:" + (char) 0xB1 + ";", SYNTAX, 3);
+        CHECKS.fails("c1:1;" + (char) 0xE3, SYNTAX, 5);
+        CHECKS.fails("c0001:1;", SYNTAX, 1);
+        CHECKS.fails("c1: 0001;", SYNTAX, 4);
+        CHECKS.fails("c1:1;0001", SYNTAX, 5);
+        CHECKS.fails("c1: 99999999999999999999;", SYNTAX, 4);
+        CHECKS.fails("c1:1;c1:-1;r", SYNTAX, 12);
+        CHECKS.fails("c1:1;c1:-1;r1", SYNTAX, 13);
+        CHECKS.fails("c1:1;c1:-1;r1 2", SYNTAX, 15);
+        CHECKS.fails("c1:1;c1:-1;r1 2 1", SYNTAX, 17);
+        CHECKS.fails("c1:1;c1:-1;r1 2 1 ", SYNTAX, 18);
+        CHECKS.fails("c1:1;c1:-1;r1 2;", SYNTAX, 15);
+        CHECKS.fails("c1:1;c1:-1;r1 2 1 1;", SYNTAX, 18);
+        CHECKS.fails("c1:1;c1:-1;r1 2 -1;", SYNTAX, 16);
+        CHECKS.fails("c1:1;c1:-1;r:1 2 1;", SYNTAX, 12);
+        CHECKS.fails("c1:1;c1:-1;r1 2 0001;", SYNTAX, 16);
     }
 
     private static void rangeFaults() {
-        fails("c0:1;", RANGE, 1);
-        fails("c 9:1;", RANGE, 2);
-        fails("c999:1;", RANGE, 1);
-        fails("c1:0;", RANGE, 3);
-        fails("c1: 11;", RANGE, 4);
-        fails("c1:- 11;", RANGE, 5);
-        fails("c1:1 -0;", RANGE, 6);
-        fails("r1 1 1;", RANGE, 1);
-        fails("c1:1;r0 1 1;", RANGE, 6);
-        fails("c1:1;r2 1 1;", RANGE, 6);
-        fails("c1:1;r1 0 1;", RANGE, 8);
-        fails("c1:1;r1 2 1;c1:-1;", RANGE, 8);
-        fails("c1:1;c1:-1;r1 2 0;", RANGE, 16);
-        fails("c1:1;c1:-1;r1 2 11;", RANGE, 16);
-        fails("c1:1;c1:-1;r3 2 1;", RANGE, 12);
-        fails("c1:1;c1:-1;r200 2 1;", RANGE, 12);
+        CHECKS.fails("c0:1;", RANGE, 1);
+        CHECKS.fails("c 9:1;", RANGE, 2);
+        CHECKS.fails("c999:1;", RANGE, 1);
+        CHECKS.fails("c1:0;", RANGE, 3);
+        CHECKS.fails("c1: 11;", RANGE, 4);
+        CHECKS.fails("c1:- 11;", RANGE, 5);
+        CHECKS.fails("c1:1 -0;", RANGE, 6);
+        CHECKS.fails("r1 1 1;", RANGE, 1);
+        CHECKS.fails("c1:1;r0 1 1;", RANGE, 6);
+        CHECKS.fails("c1:1;r2 1 1;", RANGE, 6);
+        CHECKS.fails("c1:1;r1 0 1;", RANGE, 8);
+        CHECKS.fails("c1:1;r1 2 1;c1:-1;", RANGE, 8);
+        CHECKS.fails("c1:1;c1:-1;r1 2 0;", RANGE, 16);
+        CHECKS.fails("c1:1;c1:-1;r1 2 11;", RANGE, 16);
+        CHECKS.fails("c1:1;c1:-1;r3 2 1;", RANGE, 12);
+        CHECKS.fails("c1:1;c1:-1;r200 2 1;", RANGE, 12);
     }
 
     private static void otherFaults() {
-        fails("c1:1 1;", TWICE, 5);
-        fails("c1:1 -1;", TWICE, 6);
-        fails("c1:-1 - 1;", TWICE, 8);
-        fails("c1:-1 2 1;", TWICE, 8);
-        fails("c1:10 010;", TWICE, 6);
-        fails("c1:1;c1:-1;r2 1 1;", PIVOT, 16);
-        fails("c1:1;c1:-1;r1 1 1;", PIVOT, 16);
-        fails("c1:1;c1:-1;r2 2 1;", PIVOT, 16);
-        fails("c1:1;c1:-1;r1 2 2;", PIVOT, 16);
-        fails("c1:1 2;c1:-1 -2;r1 2 1;", BOTH, 21);
-        fails("c1:1 -2;c1:-1 2;r1 2  1;", BOTH, 22);
-        fails("c1:1 -2;c1:-1 2;r2 1 2;", BOTH, 21);
+        CHECKS.fails("c1:1 1;", TWICE, 5);
+        CHECKS.fails("c1:1 -1;", TWICE, 6);
+        CHECKS.fails("c1:-1 - 1;", TWICE, 8);
+        CHECKS.fails("c1:-1 2 1;", TWICE, 8);
+        CHECKS.fails("c1:10 010;", TWICE, 6);
+        CHECKS.fails("c1:1;c1:-1;r2 1 1;", PIVOT, 16);
+        CHECKS.fails("c1:1;c1:-1;r1 1 1;", PIVOT, 16);
+        CHECKS.fails("c1:1;c1:-1;r2 2 1;", PIVOT, 16);
+        CHECKS.fails("c1:1;c1:-1;r1 2 2;", PIVOT, 16);
+        CHECKS.fails("c1:1 2;c1:-1 -2;r1 2 1;", BOTH, 21);
+        CHECKS.fails("c1:1 -2;c1:-1 2;r1 2  1;", BOTH, 22);
+        CHECKS.fails("c1:1 -2;c1:-1 2;r2 1 2;", BOTH, 21);
     }
 
     private static void leastKindOfOneToken() {
-        fails("c1:1 2;c1:-1 -2;r2 1 1;", PIVOT, 21);
-        fails("c1:1 1 0;", TWICE, 5);
-        fails("c0:1 1", RANGE, 1);
-        fails("c1:1 1", TWICE, 5);
-        fails("c1:1;c1:-1;r1 2 2 2", PIVOT, 16);
+        CHECKS.fails("c1:1 2;c1:-1 -2;r2 1 1;", PIVOT, 21);
+        CHECKS.fails("c1:1 1 0;", TWICE, 5);
+        CHECKS.fails("c0:1 1", RANGE, 1);
+        CHECKS.fails("c1:1 1", TWICE, 5);
+        CHECKS.fails("c1:1;c1:-1;r1 2 2 2", PIVOT, 16);
     }
 
     private static void faultLeavesNothing() {
@@ -174,9 +156,9 @@ final class ReadTest {
     }
 
     private static void roomForGiven() {
-        reads("c1:1;".repeat(60), 60);
-        fails("c1:1;".repeat(60) + " c1:1;", ROOM, 301);
-        fails("c1:1;".repeat(60) + "c", ROOM, 300);
+        CHECKS.reads("c1:1;".repeat(60), 60);
+        CHECKS.fails("c1:1;".repeat(60) + " c1:1;", ROOM, 301);
+        CHECKS.fails("c1:1;".repeat(60) + "c", ROOM, 300);
         CraigBench bench = Checks.benchWith("c1:1;".repeat(59) + "c1:-1;");
         CHECKS.due("the 61st read", Checks.readText(bench, "r 1 60 1;  c0"), CraigBench.NONE);
         CHECKS.due("its fault(0)", bench.fault(0), ROOM);
@@ -188,9 +170,9 @@ final class ReadTest {
 
     private static void roomForAll() {
         String two = "c1:1;c1:-1;";
-        reads(two + "r1 2 1;".repeat(198), 200);
-        fails(two + "r1 2 1;".repeat(198) + "r", ROOM, 11 + 198 * 7);
-        fails(two + "r1 2 1;".repeat(198) + " c", ROOM, 12 + 198 * 7);
+        CHECKS.reads(two + "r1 2 1;".repeat(198), 200);
+        CHECKS.fails(two + "r1 2 1;".repeat(198) + "r", ROOM, 11 + 198 * 7);
+        CHECKS.fails(two + "r1 2 1;".repeat(198) + " c", ROOM, 12 + 198 * 7);
         CraigBench bench = Checks.benchWith(two + "r1 2 1;".repeat(197));
         CHECKS.due("two more", Checks.readText(bench, "r1 2 1;r1 2 1;"), CraigBench.NONE);
         CHECKS.due("fault(1) of two more", bench.fault(1), 7);
