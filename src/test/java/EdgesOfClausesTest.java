@@ -136,6 +136,14 @@ final class EdgesOfClausesTest {
         CraigBench other = Checks.benchWith("c5:1 2;c5:-1;");
         other.eliminate(1);
         CHECKS.due("clause(3, 0) by eliminate()", other.clause(3, 0), 0);
+        // A RESOLVENT where a given CLAUSE was, and the other way round
+        CraigBench again = Checks.benchWith("c6:1;c6:2;c6:3;");
+        again.clear();
+        CHECKS.readsOn(again, "c1:1;c8:-1;r1 2 1;", 3);
+        CHECKS.due("clause(3, 0) in the place of a given one", again.clause(3, 0), 0);
+        again.clear();
+        CHECKS.readsOn(again, "c1:1;c8:-1;c7:;", 3);
+        CHECKS.due("clause(3, 0) in the place of a RESOLVENT", again.clause(3, 0), 7);
     }
 
     private static void clauseParents() {

@@ -236,6 +236,19 @@ final class EdgesOfFormulasTest {
         partialDue(third, 3, TRUE);
         partialDue(third, 4, TRUE);
         partialDue(third, 8, NOT_2);
+        // Each of the ten by its own: told a, the CLAUSE ahead says nothing, and the one behind does.
+        for (int v = 1; v <= 10; v++) {
+            CraigBench bench = Checks.benchWith("c1:" + v + ";c2:-" + v + ";r1 2 " + v + ";");
+            bench.label(v, A);
+            CHECKS.due("interpolate(1, 3)", bench.interpolate(1, 3), 1);
+            CHECKS.due(v + ": partial(1, 1023)", bench.partial(1, 1023), 0);
+            CHECKS.due(v + ": partial(2, 0)", bench.partial(2, 0), 0);
+            bench.label(v % 10 + 1, AB);
+            bench.label(v, B);
+            bench.interpolate(1, 3);
+            CHECKS.due(v + ": partial(1, 1023)", bench.partial(1, 1023), 1);
+            CHECKS.due(v + ": partial(2, 0)", bench.partial(2, 0), 1);
+        }
         // The other systems ask no LABELS.
         third.interpolate(4, 0);
         partialDue(third, 1, NOT_2_OR_3);

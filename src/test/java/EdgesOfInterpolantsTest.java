@@ -204,9 +204,10 @@ final class EdgesOfInterpolantsTest {
         CHECKS.due("partial(1, 0) of the latest", bench.partial(1, 0), 0);
         bench.interpolate(1, 4);
         CHECKS.due("partial(1, 0) behind a refused one", bench.partial(1, 0), 0);
-        // THE REFUTATION's is THE INTERPOLANT.
+        // THE REFUTATION's is THE INTERPOLANT: (-2 or -3).
         for (int valuation = 0; valuation < 1024; valuation++) {
-            CHECKS.due("partial(11, " + valuation + ")", bench.partial(11, valuation), bench.value(valuation));
+            CHECKS.due("partial(11, " + valuation + ")", bench.partial(11, valuation), (valuation & 6) == 6 ? 0 : 1);
+            CHECKS.due("value(" + valuation + ")", bench.value(valuation), (valuation & 6) == 6 ? 0 : 1);
         }
     }
 
@@ -262,8 +263,10 @@ final class EdgesOfInterpolantsTest {
         CraigBench full = Checks.benchWith("c1:1 2;c2:-1 2;c1:-2;" + "r1 2 1;".repeat(196) + "r199 3 2;");
         CHECKS.due("refutation()", full.refutation(), 200);
         full.interpolate(1, 2);
-        CHECKS.due("partial(200, 0)", full.partial(200, 0), full.value(0));
-        CHECKS.due("partial(199, 0) is needed", full.partial(199, 0) >= 0 ? 1 : 0, 1);
+        // (1 and -2), the PARTIAL formula of 2 alone
+        CHECKS.due("partial(200, 0)", full.partial(200, 0), 0);
+        CHECKS.due("partial(200, 1)", full.partial(200, 1), 1);
+        CHECKS.due("partial(199, 1)", full.partial(199, 1), 1);
         CHECKS.due("partial(198, 0)", full.partial(198, 0), NONE);
         CHECKS.due("partial(201, 0)", full.partial(201, 0), NONE);
     }
@@ -396,12 +399,18 @@ final class EdgesOfInterpolantsTest {
         bench.label(3, 1);
         CHECKS.due("follows(1, 1, 3)", bench.follows(1, 1, 3), 1);
         CHECKS.due("follows(1, 3, 1)", bench.follows(1, 3, 1), 0);
-        // What tells them apart is so only when 7 to 10 are true: in the last VALUATIONS.
-        CraigBench far = Checks.benchWith("c1:1 -2;c1:-1 -3;c1:2;c2:-2 3 -7 -8 -9 -10;c2:2 4;c2:-4;"
-            + "c1:7;c1:8;c1:9;c1:10;r1 2 1;r3 11 2;r5 4 2;r13 6 4;r7 14 7;r8 15 8;r9 16 9;r10 17 10;r18 12 3;");
-        CHECKS.due("refutation()", far.refutation(), 19);
-        CHECKS.due("follows(1, 1, 0) at the end", far.follows(1, 1, 0), 0);
-        CHECKS.due("follows(1, 0, 1) at the end", far.follows(1, 0, 1), 1);
+        // What tells them apart is so only when 7 to 10 are true, in the last VALUATIONS; or false, in the first.
+        followsFarDue("c1:1 -2;c1:-1 -3;c1:2;c2:-2 3 -7 -8 -9 -10;c2:2 4;c2:-4;c1:7;c1:8;c1:9;c1:10;"
+            + "r1 2 1;r3 11 2;r5 4 2;r13 6 4;r7 14 7;r8 15 8;r9 16 9;r10 17 10;r18 12 3;");
+        followsFarDue("c1:1 -2;c1:-1 -3;c1:2;c2:-2 3 7 8 9 10;c2:2 4;c2:-4;c1:-7;c1:-8;c1:-9;c1:-10;"
+            + "r1 2 1;r3 11 2;r5 4 2;r13 6 4;r14 7 7;r15 8 8;r16 9 9;r17 10 10;r18 12 3;");
+    }
+
+    private static void followsFarDue(String text) {
+        CraigBench bench = Checks.benchWith(text);
+        CHECKS.due("refutation()", bench.refutation(), 19);
+        CHECKS.due("follows(1, 1, 0)", bench.follows(1, 1, 0), 0);
+        CHECKS.due("follows(1, 0, 1)", bench.follows(1, 0, 1), 1);
     }
 
     private static void followsOfItself() {

@@ -191,6 +191,8 @@ final class EdgesOfTextsTest {
         CHECKS.due("refutation()", bench.refutation(), 9);
         neededDue(bench, 1, 0, 1, 1, 1, 1, 1, 1, 1, 0, 0);
         CHECKS.due("count(3)", bench.count(3), 8);
+        // A RESOLVENT ahead that isn't needed: neither are its PARENTS.
+        neededDue(Checks.benchWith("c1:5;c1:-5 6;r1 2 5;c1:1;c2:-1;r4 5 1;"), 0, 0, 0, 1, 1, 1);
         CraigBench none = Checks.benchWith("c1:1;c1:-1 2;r1 2 1;");
         neededDue(none, 0, 0, 0);
         CHECKS.due("count(3) without", none.count(3), 0);
