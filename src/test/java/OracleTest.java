@@ -44,7 +44,7 @@ final class OracleTest {
         // Runs that never come to an interpolant would test nothing of it.
         System.out.println(refuted + " interpolants, the widest of " + widest + " nodes; " + fulls + " times FULL");
         CHECKS.holds("interpolants come often: " + refuted, refuted >= RUNS);
-        CHECKS.holds("graphs are wide: " + widest, widest >= 20);
+        CHECKS.holds("graphs are wide: " + widest, widest >= 100);
         CHECKS.holds("eliminations are refused for room: " + fulls, fulls >= 5);
         CHECKS.finish();
     }
@@ -168,29 +168,42 @@ final class OracleTest {
         due("refutation()", bench.refutation(), plain.refutation());
     }
 
-    /** All clauses of a few variables, some with one more that a unit takes away again: the way to wide graphs. */
+    /** All clauses of a few variables, with others that units take away again: the way to wide graphs. */
     private void refuteTree() {
-        int depth = between(1, 5);
-        StringBuilder text = new StringBuilder();
-        for (int leaf = 0; leaf < 1 << depth; leaf++) {
-            text.append('c').append(between(1, blocks)).append(':');
-            for (int v = 1; v <= depth; v++) {
-                text.append((leaf >> (v - 1) & 1) == 0 ? " " : "-").append(v);
-            }
-            text.append(random.nextInt(4) == 0 ? "" : " " + between(6, 10)).append(';');
-        }
-        for (int v = 6; v <= 10; v++) {
-            text.append('c').append(between(1, blocks)).append(":-").append(v).append(';');
-        }
+        // The others are in front of half of the graphs, where they make them wider still.
+        boolean turned = random.nextBoolean();
+        // Units that are all behind leave the whole formula to the interpolant.
+        boolean apart = random.nextBoolean();
         due("clear()", bench.clear(), plain.clear());
         due("end(0)", bench.end(0), plain.end(0));
-        readTape(text.toString());
-        for (int k = 0; k < 10; k++) {
-            int v = 10 - k;
-            due("eliminate(" + v + ")", bench.eliminate(v), plain.eliminate(v));
+        readTape(tree(turned, apart ? 1 : blocks, apart ? 8 : 1));
+        for (int v = 10; v >= 1; v--) {
+            int turn = turned ? 11 - v : v;
+            due("eliminate(" + turn + ")", bench.eliminate(turn), plain.eliminate(turn));
         }
         askInterpolant();
         askInterpolant();
+    }
+
+    private String tree(boolean turned, int lastOfLeaves, int firstOfUnits) {
+        int depth = between(1, 5);
+        int often = between(1, 4);
+        StringBuilder text = new StringBuilder();
+        for (int leaf = 0; leaf < 1 << depth; leaf++) {
+            text.append('c').append(between(1, lastOfLeaves)).append(':');
+            for (int v = 1; v <= depth; v++) {
+                text.append((leaf >> (v - 1) & 1) == 0 ? " " : "-").append(turned ? 11 - v : v);
+            }
+            for (int v = 6; v <= 10; v++) {
+                text.append(random.nextInt(5) < often ? " " + (turned ? 11 - v : v) : "");
+            }
+            text.append(';');
+        }
+        for (int v = 6; v <= 10; v++) {
+            int block = between(firstOfUnits, Math.max(firstOfUnits, blocks));
+            text.append('c').append(block).append(":-").append(turned ? 11 - v : v).append(';');
+        }
+        return text.toString();
     }
 
     private void askInterpolant() {
